@@ -1,0 +1,1 @@
+public final class LanguageTests { static void run(Checks c, String p) {} }

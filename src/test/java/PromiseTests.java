@@ -1,0 +1,1 @@
+public final class PromiseTests { static void run(Checks c) {} }
