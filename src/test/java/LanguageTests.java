@@ -1,1 +1,168 @@
-public final class LanguageTests { static void run(Checks c, String p) {} }
+import java.io.IOException;
+import java.lang.reflect.Constructor;
+import java.lang.reflect.Field;
+import java.lang.reflect.Method;
+import java.lang.reflect.Modifier;
+import java.nio.file.Files;
+import java.nio.file.Path;
+import java.util.Arrays;
+import java.util.List;
+import java.util.TreeSet;
+import java.util.regex.Matcher;
+import java.util.regex.Pattern;
+
+/** The face of the class and those rules of ../shared/LANGUAGE.md that can be seen from outside. */
+final class LanguageTests {
+    private static final List<String> CALLS = List.of(
+        "rows/3", "order/1", "divisors/2", "net/1", "clear/0", "row/3", "thing/1", "below/3",
+        "post/1", "road/3", "rule/2", "told/2", "isBelow/3", "bite/3", "won/1", "worth/1",
+        "length/1", "winning/1", "boards/3", "ranked/2", "play/2", "answer/1", "back/1",
+        "noted/2", "sum/1", "inSum/2");
+    private static final List<String> CONSTANTS = List.of("NONE", "UNKNOWN", "OUTSIDE", "NOT", "FULL");
+    private static final List<String> FORBIDDEN = List.of(
+        "throw", "try", "catch", "synchronized", "assert", "import", "package", "volatile",
+        "native", "System", "Object", "Exact");
+    private static final int MOST_LINES = 60;
+
+    private LanguageTests() {
+    }
+
+    static void run(Checks checks, String file) throws IOException {
+        face(checks);
+        fields(checks);
+        for (Class<?> inner : BittenBoards.class.getDeclaredClasses()) {
+            innerClass(checks, inner);
+        }
+        String code = withoutComments(Files.readString(Path.of(file)));
+        words(checks, code);
+        methodLengths(checks, code);
+        room(checks);
+    }
+
+    private static void face(Checks checks) {
+        TreeSet<String> calls = new TreeSet<>();
+        for (Method m : BittenBoards.class.getDeclaredMethods()) {
+            if (Modifier.isPublic(m.getModifiers())) {
+                calls.add(m.getName() + "/" + m.getParameterCount());
+                checks.holds(m + " is of numbers", isOfNumbers(m));
+            } else {
+                checks.holds(m + " is private", Modifier.isPrivate(m.getModifiers()));
+                checks.holds(m + " has a name of its own",
+                        CALLS.stream().noneMatch(c -> c.startsWith(m.getName() + "/")));
+            }
+        }
+        checks.holds("the public calls are the document's", calls.equals(new TreeSet<>(CALLS)));
+        Constructor<?>[] made = BittenBoards.class.getDeclaredConstructors();
+        checks.due("constructors", made.length, 1);
+        checks.due("its parameters", made[0].getParameterCount(), 0);
+        checks.holds("it is public", Modifier.isPublic(made[0].getModifiers()));
+        int modifiers = BittenBoards.class.getModifiers();
+        checks.holds("public and final", Modifier.isPublic(modifiers) && Modifier.isFinal(modifiers));
+    }
+
+    private static boolean isOfNumbers(Method m) {
+        return m.getReturnType() == int.class && !Modifier.isStatic(m.getModifiers())
+                && Arrays.stream(m.getParameterTypes()).allMatch(t -> t == int.class);
+    }
+
+    private static void fields(Checks checks) {
+        for (Field f : BittenBoards.class.getDeclaredFields()) {
+            int modifiers = f.getModifiers();
+            boolean isConstant = Modifier.isPublic(modifiers) && Modifier.isStatic(modifiers)
+                    && Modifier.isFinal(modifiers) && CONSTANTS.contains(f.getName());
+            checks.holds(f + " is private or of the face", Modifier.isPrivate(modifiers) || isConstant);
+            checks.holds(f + " is no static state",
+                    !Modifier.isStatic(modifiers) || Modifier.isFinal(modifiers));
+        }
+    }
+
+    private static void innerClass(Checks checks, Class<?> inner) {
+        int modifiers = inner.getModifiers();
+        checks.holds(inner + " is static", Modifier.isStatic(modifiers));
+        checks.holds(inner + " is not public",
+                !Modifier.isPublic(modifiers) && !Modifier.isProtected(modifiers));
+        int own = 0;
+        for (Field f : inner.getDeclaredFields()) {
+            if (!Modifier.isStatic(f.getModifiers())) {
+                own++;
+            } else {
+                checks.holds(f + " is final", Modifier.isFinal(f.getModifiers()));
+            }
+        }
+        checks.holds(inner + " has some twenty fields", own <= 20);
+        for (Method m : inner.getDeclaredMethods()) {
+            checks.holds(m + " bears no name of the face",
+                    CALLS.stream().noneMatch(c -> c.startsWith(m.getName() + "/")));
+            checks.holds(m + " has at most seven parameters", m.getParameterCount() <= 7);
+        }
+    }
+
+    private static String withoutComments(String text) {
+        return text.replaceAll("(?s)/\\*.*?\\*/", "").replaceAll("//[^\n]*", "");
+    }
+
+    private static void words(Checks checks, String code) {
+        for (String word : FORBIDDEN) {
+            checks.holds("no " + word, !Pattern.compile("\\b" + word + "\\b").matcher(code).find());
+        }
+        checks.holds("no lambda", !code.contains("->"));
+        checks.holds("no method reference", !code.contains("::"));
+        checks.holds("no text", code.indexOf('"') < 0);
+        Matcher library = Pattern.compile("\\b(Math|Integer|Long)\\.(\\w+)").matcher(code);
+        while (library.find()) {
+            checks.holds(library.group() + " is in the library",
+                    List.of("max", "min", "bitCount").contains(library.group(2)));
+        }
+    }
+
+    /** A method is what begins with four or eight spaces and ends in a brace as far in. */
+    private static void methodLengths(Checks checks, String code) {
+        Matcher method = Pattern.compile("(?ms)^((?: {4}){1,2})(?! |private static final class)[^\n;=]*\\) \\{\n.*?^\\1\\}").matcher(code);
+        int found = 0;
+        while (method.find()) {
+            found++;
+            long lines = method.group().lines().count();
+            checks.holds("a method of " + lines + " lines is short", lines <= MOST_LINES);
+        }
+        checks.holds("methods were found", found > 80);
+    }
+
+    /** All calls of one run live in one room, so that calls must make next to nothing. */
+    private static void room(Checks checks) {
+        com.sun.management.ThreadMXBean threads =
+                (com.sun.management.ThreadMXBean) java.lang.management.ManagementFactory.getThreadMXBean();
+        long thread = Thread.currentThread().getId();
+        dearestRun();
+        long before = threads.getThreadAllocatedBytes(thread);
+        dearestRun();
+        long made = threads.getThreadAllocatedBytes(thread) - before;
+        checks.holds("a run made " + made + " bytes", made < 1_200_000);
+    }
+
+    /** Orders and nets by turns in all six places, each solved, until the calls are spent. */
+    private static void dearestRun() {
+        BittenBoards x = new BittenBoards();
+        for (int call = 0; call < 512; ) {
+            x.clear();
+            call++;
+            for (int g = 0; g < 6 && call < 500; g++) {
+                boolean isNet = (call & 1) == 0;
+                if (isNet) {
+                    x.net(g & 1);
+                    x.post(g);
+                    x.post(g);
+                    x.road(g, 0, 1);
+                } else {
+                    x.order(g & 1);
+                    x.thing(g);
+                    x.thing(g);
+                    x.below(g, 0, 1);
+                }
+                x.worth(g);
+                call += 5;
+            }
+            x.boards(7, 7, 2);
+            call++;
+        }
+    }
+}
