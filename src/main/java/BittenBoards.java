@@ -10,7 +10,8 @@ public final class BittenBoards {
     private static final int SIDE = 7, RANKS = 3432;
     private static final int MOST_THINGS = 12, MOST_POSTS = 6, MOST_ROADS = 9;
     private static final int MOST_PARTS = MOST_POSTS + MOST_ROADS;
-    private static final int ORDER_STATES = 1 << MOST_THINGS, NET_STATES = 1 << MOST_PARTS;
+    /** An order has fewer things than a net has parts, so that its states have room here, too. */
+    private static final int SET_STATES = 1 << MOST_PARTS;
     /** Roads are told of as 10 and their number, but stand right behind the posts in a state. */
     private static final int ROAD_MARK = 10 - MOST_POSTS;
     private static final int POSTS_ALONE = (1 << MOST_POSTS) - 1;
@@ -652,13 +653,13 @@ public final class BittenBoards {
         private final int[] takenBy = new int[MOST_PARTS];
         private final int[] bites = new int[MOST_NOTED];
         private final int[] before = new int[MOST_NOTED];
+        /** For orders and nets: made once for each place, so that no call makes a row. */
+        private final int[] facts = new int[SET_STATES];
         private int kind;
         private int rule;
         private int whole;
         private int state;
         private int noted;
-        /** Made when first needed, and used again: each game's place keeps its own. */
-        private int[] facts;
         private boolean isSolved;
 
         Game(Boards boards, Tally tally) {
@@ -868,14 +869,9 @@ public final class BittenBoards {
 
         /** A bite leads to a lesser set, so that rising ones find what they need. */
         private void solve() {
-            int[] row = facts;
-            if (row == null || row.length <= whole) {
-                row = new int[kind == NET ? NET_STATES : ORDER_STATES];
-                facts = row;
-            }
-            for (int set = 0; set <= whole && set < row.length; set++) {
+            for (int set = 0; set <= whole && set < facts.length; set++) {
                 if ((set & ~whole) == 0 && canBeLeft(set)) {
-                    row[set] = factsOfSet(set);
+                    facts[set] = factsOfSet(set);
                 }
             }
             isSolved = true;

@@ -23,6 +23,7 @@ final class LanguageTests {
         "throw", "try", "catch", "synchronized", "assert", "import", "package", "volatile",
         "native", "System", "Object", "Exact");
     private static final int MOST_LINES = 60;
+    private static final int SOLVING_CALLS = 8;
 
     private LanguageTests() {
     }
@@ -36,6 +37,7 @@ final class LanguageTests {
         String code = withoutComments(Files.readString(Path.of(file)));
         words(checks, code);
         methodLengths(checks, code);
+        rowsStand(checks, code);
         room(checks);
     }
 
@@ -127,42 +129,88 @@ final class LanguageTests {
         checks.holds("methods were found", found > 80);
     }
 
-    /** All calls of one run live in one room, so that calls must make next to nothing. */
+    /** All calls of one run live in one room: its rows stand from the constructor on. */
     private static void room(Checks checks) {
         com.sun.management.ThreadMXBean threads =
                 (com.sun.management.ThreadMXBean) java.lang.management.ManagementFactory.getThreadMXBean();
         long thread = Thread.currentThread().getId();
-        dearestRun();
+        // Once unmeasured, so that what the machine makes for the first use is not counted.
+        useAll(new BittenBoards());
+        threads.getThreadAllocatedBytes(thread);
         long before = threads.getThreadAllocatedBytes(thread);
-        dearestRun();
-        long made = threads.getThreadAllocatedBytes(thread) - before;
-        checks.holds("a run made " + made + " bytes", made < 1_200_000);
+        BittenBoards x = new BittenBoards();
+        long between = threads.getThreadAllocatedBytes(thread);
+        useAll(x);
+        long after = threads.getThreadAllocatedBytes(thread);
+        checks.holds("the constructor made " + (between - before) + " bytes",
+                between - before < 1_000_000);
+        // Less than a byte a call: a row would take 16 at least.
+        checks.holds("the calls made " + (after - between) + " bytes", after - between < 512);
     }
 
-    /** Orders and nets by turns in all six places, each solved, until the calls are spent. */
-    private static void dearestRun() {
-        BittenBoards x = new BittenBoards();
-        for (int call = 0; call < 512; ) {
+    /** Orders, nets and rows by turns in all six places, each solved first by another call. */
+    private static void useAll(BittenBoards x) {
+        for (int round = 0; round < SOLVING_CALLS; round++) {
             x.clear();
-            call++;
-            for (int g = 0; g < 6 && call < 500; g++) {
-                boolean isNet = (call & 1) == 0;
-                if (isNet) {
-                    x.net(g & 1);
-                    x.post(g);
-                    x.post(g);
-                    x.road(g, 0, 1);
-                } else {
-                    x.order(g & 1);
-                    x.thing(g);
-                    x.thing(g);
-                    x.below(g, 0, 1);
-                }
-                x.worth(g);
-                call += 5;
+            for (int g = 0; g < 6; g++) {
+                fill(x, g, (round + g) % 3);
+                solveBy(x, g, round);
             }
-            x.boards(7, 7, 2);
-            call++;
         }
+        x.clear();
+        x.divisors(6000, 0);
+        x.divisors(60, 1);
+        for (int what = 0; what <= 2; what++) {
+            x.boards(7, 7, what);
+            x.told(1, what);
+            x.told(1, what + 3);
+        }
+        x.rule(1, 0);
+        x.isBelow(1, 0, 1);
+        x.ranked(1000, 3);
+    }
+
+    private static void fill(BittenBoards x, int g, int kind) {
+        if (kind == 0) {
+            x.rows(7, 7, g & 1);
+            x.row(g, 3, 5);
+        } else if (kind == 1) {
+            x.order(g & 1);
+            x.thing(g);
+            x.thing(g);
+            x.below(g, 0, 1);
+        } else {
+            x.net(g & 1);
+            x.post(g);
+            x.post(g);
+            x.road(g, 0, 1);
+        }
+    }
+
+    private static void solveBy(BittenBoards x, int g, int call) {
+        switch (call) {
+            case 0 -> x.won(g);
+            case 1 -> x.worth(g);
+            case 2 -> x.length(g);
+            case 3 -> x.winning(g);
+            case 4 -> x.bite(g, 0, 2);
+            case 5 -> x.answer(g);
+            case 6 -> x.sum(1 << g);
+            default -> x.inSum(1 << g, 1);
+        }
+        x.play(g, 0);
+        x.noted(g, 0);
+        x.back(g);
+    }
+
+    /** A row is made where its field stands, and nowhere else. */
+    private static void rowsStand(Checks checks, String code) {
+        for (String line : code.lines().toList()) {
+            if (Pattern.compile("\\bnew \\w+\\[").matcher(line).find()) {
+                checks.holds(line.strip() + " is a field", line.strip().startsWith("private final "));
+            }
+        }
+        checks.holds("nothing is copied into a new row",
+                !Pattern.compile("\\b(Arrays|clone)\\b").matcher(code).find());
     }
 }
