@@ -162,11 +162,11 @@ final class LanguageTests {
         x.divisors(60, 1);
         for (int what = 0; what <= 2; what++) {
             x.boards(7, 7, what);
-            x.told(1, what);
-            x.told(1, what + 3);
+            x.told(0, what);
+            x.told(0, what + 3);
         }
-        x.rule(1, 0);
-        x.isBelow(1, 0, 1);
+        x.rule(0, 0);
+        x.isBelow(0, 0, 1);
         x.ranked(1000, 3);
     }
 
