@@ -9,6 +9,9 @@ public final class AllTests {
         }
         Checks checks = new Checks();
         PromiseTests.run(checks);
+        BoundTests.run(checks);
+        RefusalTests.run(checks);
+        EffectTests.run(checks);
         ReferenceTests.run(checks);
         LanguageTests.run(checks, args[0]);
         System.out.println("own: " + checks.passed() + " passed, " + checks.failed() + " failed");

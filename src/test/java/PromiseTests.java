@@ -50,38 +50,6 @@ final class PromiseTests {
         checks.due(call, got, want);
     }
 
-    private static BittenBoards full() {
-        BittenBoards x = new BittenBoards();
-        for (int k = 0; k < 6; k++) {
-            x.order(0);
-        }
-        return x;
-    }
-
-    private static BittenBoards withThings(int many, int rule) {
-        BittenBoards x = new BittenBoards();
-        x.order(rule);
-        for (int k = 0; k < many; k++) {
-            x.thing(0);
-        }
-        return x;
-    }
-
-    private static BittenBoards withPosts(int many, int rule) {
-        BittenBoards x = new BittenBoards();
-        x.net(rule);
-        for (int k = 0; k < many; k++) {
-            x.post(0);
-        }
-        return x;
-    }
-
-    private static BittenBoards withRows(int h, int w, int rule) {
-        BittenBoards x = new BittenBoards();
-        x.rows(h, w, rule);
-        return x;
-    }
-
     private void constants() {
         due("NONE", BittenBoards.NONE, NONE);
         due("UNKNOWN", BittenBoards.UNKNOWN, UNKNOWN);
@@ -115,10 +83,10 @@ final class PromiseTests {
         due("rule -1", x.rows(3, 3, -1), OUTSIDE);
         due("rule 2", x.rows(3, 3, 2), OUTSIDE);
         due("refused ones made none", x.rows(1, 2, 0), 3);
-        due("a seventh", full().rows(3, 3, 0), FULL);
-        due("outside before full: h", full().rows(8, 3, 0), OUTSIDE);
-        due("outside before full: w", full().rows(3, 0, 0), OUTSIDE);
-        due("outside before full: rule", full().rows(3, 3, 2), OUTSIDE);
+        due("a seventh", Made.sixOrders().rows(3, 3, 0), FULL);
+        due("outside before full: h", Made.sixOrders().rows(8, 3, 0), OUTSIDE);
+        due("outside before full: w", Made.sixOrders().rows(3, 0, 0), OUTSIDE);
+        due("outside before full: rule", Made.sixOrders().rows(3, 3, 2), OUTSIDE);
     }
 
     private void promise3Order() {
@@ -131,8 +99,8 @@ final class PromiseTests {
         due("state", x.told(1, 5), 0);
         due("rule -1", x.order(-1), OUTSIDE);
         due("rule 2", x.order(2), OUTSIDE);
-        due("a seventh", full().order(0), FULL);
-        due("outside before full", full().order(2), OUTSIDE);
+        due("a seventh", Made.sixOrders().order(0), FULL);
+        due("outside before full", Made.sixOrders().order(2), OUTSIDE);
     }
 
     private void promise4Divisors() {
@@ -164,10 +132,10 @@ final class PromiseTests {
         due("12 of 2048", x.divisors(2048, 0), 4);
         due("12 in a row", x.told(4, 2), 12);
         due("things may follow", x.thing(3), 2);
-        due("a seventh", full().divisors(12, 0), FULL);
-        due("outside before full: n", full().divisors(0, 0), OUTSIDE);
-        due("outside before full: too many", full().divisors(120, 0), OUTSIDE);
-        due("outside before full: rule", full().divisors(12, 2), OUTSIDE);
+        due("a seventh", Made.sixOrders().divisors(12, 0), FULL);
+        due("outside before full: n", Made.sixOrders().divisors(0, 0), OUTSIDE);
+        due("outside before full: too many", Made.sixOrders().divisors(120, 0), OUTSIDE);
+        due("outside before full: rule", Made.sixOrders().divisors(12, 2), OUTSIDE);
     }
 
     private void promise5Net() {
@@ -179,12 +147,12 @@ final class PromiseTests {
         due("posts and roads", x.told(0, 2), 0);
         due("rule -1", x.net(-1), OUTSIDE);
         due("rule 2", x.net(2), OUTSIDE);
-        due("a seventh", full().net(0), FULL);
-        due("outside before full", full().net(-1), OUTSIDE);
+        due("a seventh", Made.sixOrders().net(0), FULL);
+        due("outside before full", Made.sixOrders().net(-1), OUTSIDE);
     }
 
     private void promise6Clear() {
-        BittenBoards x = full();
+        BittenBoards x = Made.sixOrders();
         due("six go", x.clear(), 6);
         due("none is left", x.told(0, 0), UNKNOWN);
         due("nothing more goes", x.clear(), 0);
@@ -204,7 +172,7 @@ final class PromiseTests {
     }
 
     private void promise7Row() {
-        BittenBoards x = withRows(3, 4, 0);
+        BittenBoards x = Made.rows(3, 4, 0);
         due("row 0 is longer", x.row(0, 0, 7), 15);
         due("those behind are not", x.told(0, 5), 1716 + 84 + 56);
         due("row 1 is shorter", x.row(0, 1, 2), 11);
@@ -231,13 +199,13 @@ final class PromiseTests {
     }
 
     private void promise8Thing() {
-        BittenBoards x = withThings(0, 0);
+        BittenBoards x = Made.order(0, 0);
         for (int k = 0; k < 12; k++) {
             due("thing " + k, x.thing(0), k);
         }
         due("a thirteenth", x.thing(0), FULL);
         due("twelve are there", x.told(0, 5), 4095);
-        BittenBoards y = withThings(2, 0);
+        BittenBoards y = Made.order(2, 0);
         y.below(0, 0, 1);
         y.play(0, 0);
         due("all gone", y.told(0, 5), 0);
@@ -255,7 +223,7 @@ final class PromiseTests {
     }
 
     private void promise9Below() {
-        BittenBoards x = withThings(5, 0);
+        BittenBoards x = Made.order(5, 0);
         due("0 below 1", x.below(0, 0, 1), 1);
         due("2 below 3", x.below(0, 2, 3), 2);
         due("1 below 2, with all that follows", x.below(0, 1, 2), 6);
@@ -279,19 +247,19 @@ final class PromiseTests {
         due("rows are no order", x.below(1, 0, 1), UNKNOWN);
         due("a net is no order", x.below(2, 0, 1), UNKNOWN);
         due("no such game", x.below(3, 0, 1), UNKNOWN);
-        BittenBoards y = withThings(2, 1);
+        BittenBoards y = Made.order(2, 1);
         due("two apart", y.worth(0), 0);
         y.below(0, 1, 0);
         due("worth changes with what is below", y.worth(0), 2);
     }
 
     private void promise10Post() {
-        BittenBoards x = withPosts(0, 0);
+        BittenBoards x = Made.net(0, 0);
         for (int k = 0; k < 6; k++) {
             due("post " + k, x.post(0), k);
         }
         due("a seventh", x.post(0), FULL);
-        BittenBoards y = withPosts(2, 0);
+        BittenBoards y = Made.net(2, 0);
         y.road(0, 0, 1);
         y.play(0, 1);
         due("post 0 is left", y.told(0, 5), 1);
@@ -306,7 +274,7 @@ final class PromiseTests {
     }
 
     private void promise11Road() {
-        BittenBoards x = withPosts(3, 0);
+        BittenBoards x = Made.net(3, 0);
         for (int k = 0; k < 8; k++) {
             due("road " + k, x.road(0, k % 2, 2), k);
         }
@@ -328,7 +296,7 @@ final class PromiseTests {
     }
 
     private void promise12Rule() {
-        BittenBoards x = withRows(1, 1, 0);
+        BittenBoards x = Made.rows(1, 1, 0);
         due("it was 0", x.rule(0, 1), 0);
         due("it is 1", x.told(0, 1), 1);
         due("by rule 1 who bites the last wins", x.won(0), 1);
@@ -344,7 +312,7 @@ final class PromiseTests {
     }
 
     private void promise13Told() {
-        BittenBoards x = withPosts(3, 1);
+        BittenBoards x = Made.net(3, 1);
         x.road(0, 0, 1);
         x.road(0, 1, 2);
         x.road(0, 1, 2);
@@ -374,7 +342,7 @@ final class PromiseTests {
     }
 
     private void promise14IsBelow() {
-        BittenBoards x = withThings(3, 0);
+        BittenBoards x = Made.order(3, 0);
         x.below(0, 2, 0);
         due("2 below 0", x.isBelow(0, 2, 0), 1);
         due("0 not below 2", x.isBelow(0, 0, 2), 0);
@@ -395,7 +363,7 @@ final class PromiseTests {
     }
 
     private void promise15Bite() {
-        BittenBoards x = withRows(2, 3, 0);
+        BittenBoards x = Made.rows(2, 3, 0);
         x.row(0, 1, 2);
         int[][] squares = {{0, 0}, {0, 1}, {0, 2}, {1, 0}, {1, 1}};
         for (int i = 0; i < squares.length; i++) {
@@ -439,7 +407,7 @@ final class PromiseTests {
     }
 
     private void promise16Won() {
-        BittenBoards x = withRows(1, 1, 0);
+        BittenBoards x = Made.rows(1, 1, 0);
         due("the poisoned square", x.won(0), 0);
         x.play(0, 0);
         due("the end by rule 0", x.won(0), 1);
@@ -447,28 +415,28 @@ final class PromiseTests {
         due("the end by rule 1", x.won(0), 0);
         for (int h = 1; h <= 7; h++) {
             for (int w = 1; w <= 7; w++) {
-                due("rows " + h + " " + w, withRows(h, w, 0).won(0), h * w == 1 ? 0 : 1);
-                due("rows by rule 1", withRows(h, w, 1).won(0), 1);
+                due("rows " + h + " " + w, Made.rows(h, w, 0).won(0), h * w == 1 ? 0 : 1);
+                due("rows by rule 1", Made.rows(h, w, 1).won(0), 1);
             }
         }
-        due("things apart, odd", withThings(11, 1).won(0), 1);
-        due("things apart, even", withThings(12, 1).won(0), 0);
-        due("things apart, even, rule 0", withThings(12, 0).won(0), 1);
+        due("things apart, odd", Made.order(11, 1).won(0), 1);
+        due("things apart, even", Made.order(12, 1).won(0), 0);
+        due("things apart, even, rule 0", Made.order(12, 0).won(0), 1);
         due("no such game", x.won(1), UNKNOWN);
         due("no game -1", x.won(-1), UNKNOWN);
     }
 
     private void promise17Worth() {
         for (int n = 1; n <= 7; n++) {
-            due("one row is a heap", withRows(1, n, 0).worth(0), n);
-            due("one column is a heap", withRows(n, 1, 1).worth(0), n);
+            due("one row is a heap", Made.rows(1, n, 0).worth(0), n);
+            due("one column is a heap", Made.rows(n, 1, 1).worth(0), n);
         }
-        BittenBoards x = withRows(2, 2, 0);
+        BittenBoards x = Made.rows(2, 2, 0);
         x.row(0, 1, 1);
         due("a corner of three leads to 0 and 2 alone", x.worth(0), 1);
-        due("a chain of twelve", solvedChain(12), 12);
+        due("a chain of twelve", Made.chain(12, 0).worth(0), 12);
         due("no such game", x.worth(1), UNKNOWN);
-        BittenBoards y = withPosts(3, 0);
+        BittenBoards y = Made.net(3, 0);
         y.road(0, 0, 1);
         due("a road and a post", y.worth(0), 3);
         y.road(0, 1, 2);
@@ -479,34 +447,26 @@ final class PromiseTests {
         due("whatever the rule is", y.worth(0), 0);
     }
 
-    private static int solvedChain(int many) {
-        BittenBoards x = withThings(many, 0);
-        for (int k = 1; k < many; k++) {
-            x.below(0, k - 1, k);
-        }
-        return x.worth(0);
-    }
-
     private void promise18Length() {
-        BittenBoards x = withRows(1, 7, 0);
+        BittenBoards x = Made.rows(1, 7, 0);
         due("all but one, and the last", x.length(0), 2);
         x.rule(0, 1);
         due("all at once", x.length(0), 1);
-        due("things apart", withThings(12, 0).length(0), 12);
-        BittenBoards y = withRows(2, 2, 0);
+        due("things apart", Made.order(12, 0).length(0), 12);
+        BittenBoards y = Made.rows(2, 2, 0);
         due("2 x 2", y.length(0), 4);
         y.row(0, 0, 0);
         due("the end", y.length(0), 0);
-        due("7 x 7", withRows(7, 7, 0).length(0), 14);
+        due("7 x 7", Made.rows(7, 7, 0).length(0), 14);
         due("no such game", y.length(1), UNKNOWN);
     }
 
     private void promise19Winning() {
-        due("one row by rule 0", withRows(1, 5, 0).winning(0), 1);
-        due("nothing but the poisoned square", withRows(1, 1, 0).winning(0), 0);
-        due("all wins by odd things", withThings(5, 1).winning(0), 5);
-        due("none by even things", withThings(4, 1).winning(0), 0);
-        BittenBoards x = withThings(0, 0);
+        due("one row by rule 0", Made.rows(1, 5, 0).winning(0), 1);
+        due("nothing but the poisoned square", Made.rows(1, 1, 0).winning(0), 0);
+        due("all wins by odd things", Made.order(5, 1).winning(0), 5);
+        due("none by even things", Made.order(4, 1).winning(0), 0);
+        BittenBoards x = Made.order(0, 0);
         due("none at the end", x.winning(0), 0);
         due("though it is won", x.won(0), 1);
         due("no such game", x.winning(1), UNKNOWN);
@@ -552,7 +512,7 @@ final class PromiseTests {
     }
 
     private void promise22Play() {
-        BittenBoards x = withRows(2, 3, 0);
+        BittenBoards x = Made.rows(2, 3, 0);
         due("row 1 from square 1 on", x.play(0, 4), 36 + 1);
         due("row 0 from square 2 on", x.play(0, 2), 8 + 1);
         due("all from square 0 on", x.play(0, 0), 0);
@@ -575,7 +535,7 @@ final class PromiseTests {
     }
 
     private void promise23Answer() {
-        BittenBoards x = withRows(3, 3, 0);
+        BittenBoards x = Made.rows(3, 3, 0);
         due("the winning bite", x.answer(0), 4);
         due("one is noted", x.told(0, 4), 1);
         due("it is noted", x.noted(0, 0), 4);
@@ -585,15 +545,15 @@ final class PromiseTests {
         }
         due("as many as the length told", x.told(0, 4), 6);
         due("it has ended", x.answer(0), NOT);
-        BittenBoards y = withThings(4, 1);
+        BittenBoards y = Made.order(4, 1);
         due("the first of equals", y.answer(0), 0);
         due("the first that wins", y.answer(0), 0);
         due("no such game", y.answer(1), UNKNOWN);
-        due("ended at once", withThings(0, 0).answer(0), NOT);
+        due("ended at once", Made.order(0, 0).answer(0), NOT);
     }
 
     private void promise24Back() {
-        BittenBoards x = withRows(2, 2, 0);
+        BittenBoards x = Made.rows(2, 2, 0);
         x.play(0, 3);
         x.play(0, 1);
         due("one is left", x.back(0), 1);
@@ -612,7 +572,7 @@ final class PromiseTests {
     }
 
     private void promise25Noted() {
-        BittenBoards x = withRows(3, 3, 0);
+        BittenBoards x = Made.rows(3, 3, 0);
         x.play(0, 8);
         x.play(0, 5);
         due("the first", x.noted(0, 0), 8);
@@ -629,7 +589,7 @@ final class PromiseTests {
     }
 
     private void promise26Sum() {
-        BittenBoards x = withRows(1, 3, 0);
+        BittenBoards x = Made.rows(1, 3, 0);
         x.rows(1, 5, 1);
         x.rows(6, 1, 0);
         due("3", x.sum(1), 3);
@@ -645,12 +605,12 @@ final class PromiseTests {
         due("-1", x.sum(-1), OUTSIDE);
         due("64", x.sum(64), OUTSIDE);
         due("65", x.sum(65), OUTSIDE);
-        due("all six", full().sum(63), 0);
-        due("a seventh", full().sum(64), OUTSIDE);
+        due("all six", Made.sixOrders().sum(63), 0);
+        due("a seventh", Made.sixOrders().sum(64), OUTSIDE);
     }
 
     private void promise27InSum() {
-        BittenBoards x = withRows(1, 3, 0);
+        BittenBoards x = Made.rows(1, 3, 0);
         x.rows(1, 5, 0);
         x.rows(1, 7, 0);
         due("no game wins in 3 and 3", lostSum(), NONE);
@@ -664,17 +624,17 @@ final class PromiseTests {
         due("game 3", x.inSum(8, 0), OUTSIDE);
         due("what -1", x.inSum(7, -1), OUTSIDE);
         due("what 2", x.inSum(7, 2), OUTSIDE);
-        due("nothing to bite", full().inSum(63, 0), NONE);
+        due("nothing to bite", Made.sixOrders().inSum(63, 0), NONE);
     }
 
     private static int lostSum() {
-        BittenBoards x = withRows(1, 3, 0);
+        BittenBoards x = Made.rows(1, 3, 0);
         x.rows(3, 1, 1);
         return x.inSum(3, 0);
     }
 
     private void refusalsChangeNothing() {
-        BittenBoards x = withRows(3, 3, 0);
+        BittenBoards x = Made.rows(3, 3, 0);
         x.divisors(2048, 0);
         x.net(0);
         for (int k = 0; k < 6; k++) {
@@ -709,7 +669,7 @@ final class PromiseTests {
     /** No argument whatever makes the machine throw. */
     private void anyArguments() {
         int[] odd = {LEAST, LEAST + 1, -1000, -1, 0, 1, 5, 6, 7, 31, 32, 63, 64, 4096, GREATEST};
-        BittenBoards x = withRows(3, 3, 0);
+        BittenBoards x = Made.rows(3, 3, 0);
         x.divisors(12, 1);
         x.net(1);
         x.post(2);

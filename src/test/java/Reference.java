@@ -532,6 +532,15 @@ final class Reference {
         }
     }
 
+    /** The rank of a board whose seven rows fall. */
+    static int rankOf(int... rows) {
+        List<Integer> board = new ArrayList<>();
+        for (int v : rows) {
+            board.add(v);
+        }
+        return RANKS.get(board);
+    }
+
     private static Map<List<Integer>, Integer> ranksOf(List<List<Integer>> boards) {
         Map<List<Integer>, Integer> ranks = new HashMap<>();
         for (List<Integer> board : boards) {
