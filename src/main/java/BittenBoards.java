@@ -368,7 +368,7 @@ public final class BittenBoards {
     /** How many divisors n has; the row holds the first ones, as many as there may be things. */
     private int listDivisors(int n) {
         int found = 0;
-        for (int d = 1; d <= n; d++) {
+        for (int d = 1; d <= n && d <= MOST_DIVIDED; d++) {
             if (n % d == 0) {
                 if (found < divisorRow.length) {
                     divisorRow[found] = d;

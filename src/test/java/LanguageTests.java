@@ -18,6 +18,9 @@ final class LanguageTests {
         "post/1", "road/3", "rule/2", "told/2", "isBelow/3", "bite/3", "won/1", "worth/1",
         "length/1", "winning/1", "boards/3", "ranked/2", "play/2", "answer/1", "back/1",
         "noted/2", "sum/1", "inSum/2");
+    private static final String FACE =
+        "-games rows order divisors net clear row thing below post road rule told isBelow bite "
+        + "-solved won worth length winning boards ranked -plays play answer back noted -sums sum inSum ";
     private static final List<String> CONSTANTS = List.of("NONE", "UNKNOWN", "OUTSIDE", "NOT", "FULL");
     private static final List<String> FORBIDDEN = List.of(
         "throw", "try", "catch", "synchronized", "assert", "import", "package", "volatile",
@@ -34,7 +37,9 @@ final class LanguageTests {
         for (Class<?> inner : BittenBoards.class.getDeclaredClasses()) {
             innerClass(checks, inner);
         }
-        String code = withoutComments(Files.readString(Path.of(file)));
+        String text = Files.readString(Path.of(file));
+        faceInOrder(checks, text);
+        String code = withoutComments(text);
         words(checks, code);
         methodLengths(checks, code);
         rowsStand(checks, code);
@@ -60,6 +65,16 @@ final class LanguageTests {
         checks.holds("it is public", Modifier.isPublic(made[0].getModifiers()));
         int modifiers = BittenBoards.class.getModifiers();
         checks.holds("public and final", Modifier.isPublic(modifiers) && Modifier.isFinal(modifiers));
+    }
+
+    /** The calls as the document lists them, with its heads ahead of them. */
+    private static void faceInOrder(Checks checks, String text) {
+        StringBuilder found = new StringBuilder();
+        Matcher line = Pattern.compile("(?m)^    (?:// ---- (\\w+)$|public int (\\w+)\\()").matcher(text);
+        while (line.find()) {
+            found.append(line.group(1) != null ? "-" + line.group(1) : line.group(2)).append(' ');
+        }
+        checks.holds("the calls stand in the document's order: " + found, found.toString().equals(FACE));
     }
 
     private static boolean isOfNumbers(Method m) {
